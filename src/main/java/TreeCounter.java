@@ -218,14 +218,17 @@ public final class TreeCounter {
             && reachedFrom(0, set) == everyVertex();
     }
 
-    /** A set of n - 2 pairs that leaves just two connected parts can't have a closed way either. */
+    /**
+     * A set of n - 2 pairs leaves at least two connected parts. If the parts of u and v have all vertices,
+     * they are two different ones and the only ones, so the set has no closed way and u and v are apart.
+     */
     private boolean isAllowedSplit(int set, int u, int v) {
         if (!isAllowed(set) || sizeOf(set) != vertexCount - 2) {
             return false;
         }
         int partOfU = reachedFrom(u, set);
         int partOfV = reachedFrom(v, set);
-        return (partOfU & partOfV) == 0 && (partOfU | partOfV) == everyVertex();
+        return (partOfU | partOfV) == everyVertex();
     }
 
     private int everyVertex() {
