@@ -593,6 +593,7 @@ public final class BoundariesTest {
             List<Named> refused = new ArrayList<>();
             for (int[] p : wrongPairs(n)) {
                 refused.add(new Named("edges " + Arrays.toString(p), x -> x.edges(p[0], p[1], 0)));
+                refused.add(new Named("edges, all wrong, " + Arrays.toString(p), x -> x.edges(p[0], p[1], 4)));
             }
             for (int number : notIn(0, 3)) {
                 refused.add(new Named("edges(0, 1, " + number + ")", x -> x.edges(0, 1, number)));
@@ -654,6 +655,7 @@ public final class BoundariesTest {
             for (int[] p : wrongPairs(n)) {
                 refused.add(new Named("mode MAY " + Arrays.toString(p), x -> x.mode(p[0], p[1], MAY)));
                 refused.add(new Named("mode NEVER " + Arrays.toString(p), x -> x.mode(p[0], p[1], NEVER)));
+                refused.add(new Named("mode, all wrong, " + Arrays.toString(p), x -> x.mode(p[0], p[1], 3)));
             }
             for (int mode : notIn(0, 2)) {
                 refused.add(new Named("mode(0, 1, " + mode + ")", x -> x.mode(0, 1, mode)));
