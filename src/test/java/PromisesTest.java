@@ -30,6 +30,7 @@ public final class PromisesTest {
         promise11Order();
         queriesChangeNothing();
         lastCallsOfALongUse();
+        exampleOfTheReadme();
         System.out.println(wrong == 0 ? "all answers are as due" : wrong + " answers are not as due");
         if (wrong != 0) {
             System.exit(1);
@@ -405,5 +406,22 @@ public final class PromisesTest {
             x.edges(0, 1, call % 4);
         }
         due("long: the 512th call", x.trees(), 314928);
+    }
+
+    private static void exampleOfTheReadme() {
+        TreeCounter counter = new TreeCounter(3);
+        due("README: edges(0, 1, 1)", counter.edges(0, 1, 1), 0);
+        due("README: edges(0, 2, 2)", counter.edges(0, 2, 2), 0);
+        due("README: edges(1, 2, 3)", counter.edges(1, 2, 3), 0);
+        due("README: trees()", counter.trees(), 11);
+        due("README: using(0, 2)", counter.using(0, 2), 8);
+        due("README: leaf(1)", counter.leaf(1), 8);
+        due("README: degrees(1)", counter.degrees(1), 14);
+        due("README: apart(0, 1)", counter.apart(0, 1), 5);
+        due("README: mode(0, 1, MUST)", counter.mode(0, 1, TreeCounter.MUST), MAY);
+        due("README: trees() with a MUST pair", counter.trees(), 5);
+        due("README: needed()", counter.needed(), 1);
+        due("README: edges(0, 0, 1)", counter.edges(0, 0, 1), BAD_VERTEX);
+        due("README: edges(0, 1, 4)", counter.edges(0, 1, 4), BAD_NUMBER);
     }
 }

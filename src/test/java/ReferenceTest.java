@@ -3,7 +3,8 @@ import java.util.List;
 
 /**
  * Compares every query with a reference that goes over single edges, not pairs, and knows nothing of
- * how the class counts. The runs come from a fixed sequence of numbers, so they are the same each time.
+ * how the class counts. Every state of two and of three vertices is tried; the longer runs
+ * come from a fixed sequence of numbers, so they are the same each time.
  */
 public final class ReferenceTest {
     private static final int[] ODD_NUMBERS = {Integer.MIN_VALUE, -2, -1, 4, 7, Integer.MAX_VALUE};
@@ -31,12 +32,30 @@ public final class ReferenceTest {
     }
 
     public static void main(String[] args) {
+        everyState(2, 12);
+        everyState(3, 12 * 12 * 12);
         for (int run = 0; run < 400; run++) {
             new ReferenceTest(2 + run % 5).play(run);
         }
         System.out.println(wrong == 0 ? "all answers are as due" : wrong + " answers are not as due");
         if (wrong != 0) {
             System.exit(1);
+        }
+    }
+
+    /** A pair has 12 states, 4 numbers of edges with 3 modes each: a digit of the state's number to base 12. */
+    private static void everyState(int n, int states) {
+        for (int state = 0; state < states; state++) {
+            ReferenceTest test = new ReferenceTest(n);
+            int rest = state;
+            for (int u = 0; u < n; u++) {
+                for (int v = u + 1; v < n; v++) {
+                    test.setEdges(u, v, rest % 4);
+                    test.setMode(u, v, rest / 4 % 3);
+                    rest /= 12;
+                }
+            }
+            test.checkAll();
         }
     }
 
